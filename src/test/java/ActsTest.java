@@ -9,6 +9,7 @@ public final class ActsTest {
         stretches();
         undoes();
         tenAreKept();
+        tenOfBothSorts();
         Bench.close("ActsTest");
     }
 
@@ -64,6 +65,12 @@ public final class ActsTest {
         SplicedLoom x = Bench.loomOf(TEXT);
         undo(x, false);
         x.splices(0, 2);
+        undo(x, true);
+        Bench.answers(x, "not by hand", x.net(0, 5), -2);
+        x.splices(0, 2);
+        x.about(7);
+        undo(x, true);
+        x.splices(0, 2);
         x.stretch(1, 20);
         x.splices(0, -1);
         x.stretch(1, 30);
@@ -97,5 +104,25 @@ public final class ActsTest {
         }
         undo(x, false);
         Bench.answers(x, "length of the oldest kept", x.node(1, 1), 103);
+    }
+
+    private static void tenOfBothSorts() {
+        SplicedLoom x = Bench.loomOf(TEXT);
+        for (int i = 1; i <= 7; i++) {
+            x.stretch(1 + i % 2, 100 + i);
+            x.splices(i % 2, i % 3);
+        }
+        // the acts 5 to 14 are kept: stretches 3 to 7, splices 3 to 7
+        for (int i = 7; i >= 3; i--) {
+            undo(x, true);
+            Bench.answers(x, "by hand behind undone " + i, x.net(i % 2, 5), (i - 2) % 3);
+            undo(x, true);
+            Bench.answers(x, "length behind undone " + i, x.node(1 + i % 2, 1), 98 + i);
+        }
+        undo(x, false);
+        Bench.answers(x, "bundle 1", x.node(1, 1), 102);
+        Bench.answers(x, "bundle 2", x.node(2, 1), 101);
+        Bench.answers(x, "net 0", x.net(0, 5), 2);
+        Bench.answers(x, "net 1", x.net(1, 5), 1);
     }
 }

@@ -19,6 +19,8 @@ public final class BuildsTest {
         withoutBuilds();
         belowZero();
         firstRow();
+        allApart();
+        eachCallByItself();
         Bench.close("BuildsTest");
     }
 
@@ -130,6 +132,39 @@ public final class BuildsTest {
         Bench.answers(z, "given(3)", z.given(3), 9);
         z.splices(0, 3);
         Bench.answers(z, "given(3) by hand", z.given(3), 45 - 36);
+    }
+
+    private static final String FIVE = "board slack 0 joint 0;node r;node a off r right long 1;option x;option y;"
+        + "option z;option w;plug p on r holes 9 gauge 1 to 9;plug q on a holes 9 gauge 1 to 9;"
+        + "net n power gauge 1 with x of p 0,q 0;net m power gauge 1 with y of p 1,q 1;"
+        + "net k power gauge 1 with z of p 2,q 2;net h power gauge 1 with w of p 3,q 3;"
+        + "build 1;build 2 x;build 3 y;build 4 z;build 5 w";
+
+    /** The last row of all. */
+    private static void allApart() {
+        SplicedLoom x = Bench.loomOf(FIVE);
+        // each build but the first has a net of its own: a group needs so many times all its harnesses
+        int[] need = {0, 4 * 15, 2 * 6 + 2 * 9, 5 + 2 * 5 + 5, 3 + 3 + 4 + 5, 14};
+        int[][] row = {{}, {0, 0, 0, 0, 0}, {0, 0, 0, 1, 1}, {0, 1, 1, 0, 2}, {0, 0, 1, 2, 3}, {0, 1, 2, 3, 4}};
+        for (int k = 1; k < 6; k++) {
+            Bench.answers(x, "families(" + k + ")", x.families(k), need[k]);
+            Bench.answers(x, "groups(" + k + ")", x.groups(k), k);
+            for (int build = 0; build < 5; build++) {
+                Bench.answers(x, "group(" + k + ", " + build + ")", x.group(k, build), row[k][build]);
+            }
+        }
+    }
+
+    private static void eachCallByItself() {
+        Bench.due("groups(4) first", Bench.loomOf(FIVE).groups(4), 4);
+        Bench.due("group(4, 4) first", Bench.loomOf(FIVE).group(4, 4), 3);
+        SplicedLoom x = Bench.loomOf(FIVE);
+        x.families(5);
+        Bench.answers(x, "groups(2) behind families(5)", x.groups(2), 2);
+        x.families(5);
+        Bench.answers(x, "group(2, 4) behind families(5)", x.group(2, 4), 1);
+        x.stretch(1, 7);
+        Bench.answers(x, "families(5) of another length", x.families(5), 7 * 14);
     }
 
     /** Of groups that need as much the first row. */

@@ -9,6 +9,7 @@ public final class FlawsTest {
         clashes();
         neighbours();
         allInOrder();
+        most();
         soundAndFlawed();
         refusals();
         Bench.close("FlawsTest");
@@ -87,6 +88,22 @@ public final class FlawsTest {
             flaw(x, 0, i, want[i]);
         }
         Bench.answers(x, "flaws(1): two do not dangle", x.flaws(1), want.length - 2);
+    }
+
+    /** Ten nets of five pins, all in the same cavities, of gauges that don't fit. */
+    private static void most() {
+        StringBuilder text = new StringBuilder("board slack 0 joint 0;node r;plug p on r holes 5 gauge 1 to 1");
+        for (int i = 0; i < 10; i++) {
+            text.append(";net n").append((char) ('a' + i)).append(i % 2 == 0 ? " power" : " signal")
+                .append(" gauge 9 of p 0,p 1,p 2,p 3,p 4");
+        }
+        SplicedLoom x = Bench.loomOf(text.toString());
+        Bench.answers(x, "flaws(0)", x.flaws(0), 10 + 9 * 15);
+        flaw(x, 0, 9, 4, 0, 1, 0, 4);
+        flaw(x, 0, 142, 2, 9, -2, 0, 4);
+        flaw(x, 0, 143, 3, 9, 0, 0, 4);
+        flaw(x, 0, 144, 4, 9, 0, 0, 4);
+        Bench.refuses(x, "flaw(0, 145, 0)", x.flaw(0, 145, 0), 1);
     }
 
     private static void soundAndFlawed() {

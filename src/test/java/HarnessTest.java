@@ -114,6 +114,14 @@ public final class HarnessTest {
         Bench.due("undo", x.undo() ? 1 : 0, 0);
         Bench.feedAll(x, SMALL);
         Bench.answers(x, "harness of all with blanks", x.harness(x.size(0)), 3);
+        String bare = "board slack 0 joint 0;node r;plug p on r holes 2 gauge 1 to 9;net n power gauge 1 of p 0,p 1";
+        for (int turn = 0; turn < 2; turn++) {
+            Bench.answers(x, "harness of less", Bench.tell(x, bare), 1);
+            int[] want = {0, 0, 1, 0, 1, 1, 0};
+            for (int what = 0; what < 7; what++) {
+                Bench.answers(x, "less: about(" + what + ")", x.about(what), want[what]);
+            }
+        }
         String longest = SMALL + " ".repeat(1000 - SMALL.length());
         Bench.answers(x, "harness of 1000 bytes", Bench.tell(x, longest), 3);
     }
@@ -173,6 +181,7 @@ public final class HarnessTest {
         Bench.answers(x, "an option", x.named(Bench.name("on")), 101);
         Bench.answers(x, "a plug", x.named(Bench.name("p")), 201);
         Bench.answers(x, "a net", x.named(Bench.name("power")), 300);
+        Bench.due("the third net", Bench.loomOf(SMALL).named(Bench.name("k")), 302);
         Bench.refuses(x, "an unknown one", x.named(Bench.name("q")), 1);
         Bench.refuses(x, "no letters", x.named(0), 1);
         Bench.refuses(x, "a longer one", x.named(Bench.name("abcdefg") | 1L << 56), 1);

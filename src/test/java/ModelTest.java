@@ -30,7 +30,7 @@ public final class ModelTest {
             Bench.due("enough texts of fault " + fault, faults[fault] > 20 ? 1 : 0, 1);
         }
         for (int i = 0; i < HARNESSES; i++) {
-            new ModelTest(dice).compareHarness();
+            new ModelTest(dice).compareHarnesses();
         }
         Bench.close("ModelTest");
     }
@@ -56,22 +56,38 @@ public final class ModelTest {
         return fault;
     }
 
-    private void compareHarness() {
+    /** One harness, or three, one after another, with a faulty one ahead of each. */
+    private void compareHarnesses() {
+        x = new SplicedLoom();
+        int turns = 1 + 2 * dice.next(2);
+        for (int turn = 0; turn < turns; turn++) {
+            if (turn > 0) {
+                String part = text.substring(0, dice.next(text.length()));
+                Bench.refuses(x, "a faulty harness", Bench.tell(x, part + "#"), 4);
+            }
+            compareHarness(CALLS / turns);
+        }
+    }
+
+    private void compareHarness(int calls) {
         text = Texts.harness(dice);
         if (text.length() > 1000) {
-            return;
+            text = HarnessTest.SMALL;
         }
-        x = Bench.loomOf(text);
+        int nets = Bench.tell(x, text);
         try {
             m = TextModel.read(text);
         } catch (TextModel.Fault e) {
             Bench.due("the model reads \"" + text + "\"", e.number, 0);
             return;
         }
+        due("harness", nets, m.nets.size());
         for (String name : m.names.keySet()) {
-            Bench.answers(x, "named(" + name + ")", x.named(Bench.name(name)), m.names.get(name));
+            if (dice.next(3) == 0) {
+                due("named(" + name + ")", x.named(Bench.name(name)), m.names.get(name));
+            }
         }
-        for (int i = 0; i < CALLS; i++) {
+        for (int i = 0; i < calls; i++) {
             compareCall(dice.next(48));
         }
     }

@@ -21,6 +21,8 @@ public final class TreeTest {
         extents(x);
         onlyRoot();
         crossings();
+        shortest();
+        anotherHarness();
         Bench.close("TreeTest");
     }
 
@@ -154,5 +156,38 @@ public final class TreeTest {
         Bench.answers(x, "c and e side by side", x.meet(3, 5), 0);
         Bench.answers(x, "e and f join", x.meet(5, 6), 0);
         Bench.answers(x, "meetings", x.meetings(), 5);
+    }
+
+    /** Bundles of length 1: one point more than the node at which both end is enough. */
+    private static void shortest() {
+        SplicedLoom x = Bench.loomOf(HEAD + "node a off r up long 1;node b off r up long 1;node c off a down long 1;"
+            + "node d off r left long 1;node e off c left long 1" + TAIL);
+        Bench.answers(x, "a and b lie on one another", x.meet(1, 2), 1);
+        Bench.answers(x, "a and c lie on one another", x.meet(1, 3), 1);
+        Bench.answers(x, "b and c lie on one another", x.meet(2, 3), 1);
+        Bench.answers(x, "a and d only join", x.meet(1, 4), 0);
+        Bench.answers(x, "c ends at the root's place, not at the root", x.meet(3, 4), 1);
+        Bench.answers(x, "d and e lie on one another", x.meet(4, 5), 1);
+        Bench.answers(x, "c and e only join", x.meet(3, 5), 0);
+    }
+
+    /** Nothing of a harness is left in the next one, nor in the one after it. */
+    private static void anotherHarness() {
+        SplicedLoom x = Bench.loomOf(BOARD);
+        Bench.tell(x, BOARD);
+        for (int turn = 0; turn < 2; turn++) {
+            Bench.due("a smaller one", Bench.tell(x, HEAD + "node a off r up long 2" + TAIL), 1);
+            Bench.answers(x, "nodes", x.about(2), 2);
+            Bench.answers(x, "off the root", x.node(0, 2), 1);
+            Bench.refuses(x, "node(2, 0)", x.node(2, 0), 1);
+            Bench.refuses(x, "named(b)", x.named('b'), 1);
+            Bench.answers(x, "meetings", x.meetings(), 0);
+            Bench.answers(x, "lying", x.lying(0, 0), 2);
+            Bench.answers(x, "span", x.span(), 2);
+            int[] want = {0, 0, 0, 2};
+            for (int what = 0; what < 4; what++) {
+                Bench.answers(x, "extent(" + what + ")", x.extent(what), want[what]);
+            }
+        }
     }
 }
