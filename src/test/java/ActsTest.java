@@ -112,16 +112,18 @@ public final class ActsTest {
             x.stretch(1 + i % 2, 100 + i);
             x.splices(i % 2, i % 3);
         }
-        // the acts 5 to 14 are kept: stretches 3 to 7, splices 3 to 7
+        x.splices(0, 2);
+        // of 15 acts the latest ten are kept: stretches 4 to 7, splices 3 to 7 and that
+        undo(x, true);
+        Bench.answers(x, "by hand behind undone 8", x.net(0, 5), 0);
         for (int i = 7; i >= 3; i--) {
             undo(x, true);
             Bench.answers(x, "by hand behind undone " + i, x.net(i % 2, 5), (i - 2) % 3);
-            undo(x, true);
-            Bench.answers(x, "length behind undone " + i, x.node(1 + i % 2, 1), 98 + i);
+            undo(x, i > 3);
+            Bench.answers(x, "length behind undone " + i, x.node(1 + i % 2, 1), i > 3 ? 98 + i : 103);
         }
-        undo(x, false);
         Bench.answers(x, "bundle 1", x.node(1, 1), 102);
-        Bench.answers(x, "bundle 2", x.node(2, 1), 101);
+        Bench.answers(x, "bundle 2", x.node(2, 1), 103);
         Bench.answers(x, "net 0", x.net(0, 5), 2);
         Bench.answers(x, "net 1", x.net(1, 5), 1);
     }

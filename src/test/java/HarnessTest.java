@@ -172,6 +172,34 @@ public final class HarnessTest {
         Bench.refuses(x, "about(-1)", x.about(-1), 1);
     }
 
+    /** As many NAMES as there may be. */
+    private static void allNames() {
+        StringBuilder text = new StringBuilder("board slack 0 joint 0;node a");
+        for (int i = 1; i < 14; i++) {
+            text.append(";node ").append((char) ('a' + i)).append(" off a up long 1");
+        }
+        for (int i = 0; i < 4; i++) {
+            text.append(";option o").append((char) ('a' + i));
+        }
+        for (int i = 0; i < 8; i++) {
+            text.append(";plug ").append((char) ('o' + i)).append(" on a holes 9 gauge 1 to 9");
+        }
+        for (int i = 0; i < 10; i++) {
+            text.append(";net n").append((char) ('a' + i)).append(" power gauge 1 of o 0,v 1");
+        }
+        SplicedLoom x = Bench.loomOf(text.toString());
+        Bench.answers(x, "the last node", x.named('n'), 13);
+        for (int i = 0; i < 4; i++) {
+            Bench.answers(x, "option " + i, x.named(Bench.name("o" + (char) ('a' + i))), 100 + i);
+        }
+        for (int i = 0; i < 8; i++) {
+            Bench.answers(x, "plug " + i, x.named('o' + i), 200 + i);
+        }
+        for (int i = 0; i < 10; i++) {
+            Bench.answers(x, "net " + i, x.named(Bench.name("n" + (char) ('a' + i))), 300 + i);
+        }
+    }
+
     private static void named() {
         SplicedLoom x = Bench.loomOf("board slack 0 joint 0;node slack;node abcdefg off slack up long 1;"
             + "option long;option on;plug up on slack holes 2 gauge 1 to 1;plug p on abcdefg holes 1 gauge 1 to 1;"
@@ -182,6 +210,7 @@ public final class HarnessTest {
         Bench.answers(x, "a plug", x.named(Bench.name("p")), 201);
         Bench.answers(x, "a net", x.named(Bench.name("power")), 300);
         Bench.due("the third net", Bench.loomOf(SMALL).named(Bench.name("k")), 302);
+        allNames();
         Bench.refuses(x, "an unknown one", x.named(Bench.name("q")), 1);
         Bench.refuses(x, "no letters", x.named(0), 1);
         Bench.refuses(x, "a longer one", x.named(Bench.name("abcdefg") | 1L << 56), 1);

@@ -24,6 +24,7 @@ public final class VariantsTest {
         through(x);
         byHand(x);
         refusals(x);
+        byOption();
         firstOfSeveral();
         rounds();
         onlyRoot();
@@ -176,6 +177,22 @@ public final class VariantsTest {
         Bench.refuses(x, "splice(4, 0)", x.splice(4, 0), 2);
         Bench.refuses(x, "wires(0, 4)", x.wires(0, 4), 1);
         Bench.refuses(x, "wires(-1, 0)", x.wires(-1, 0), 2);
+    }
+
+    /** The first of all is there by an option, too. */
+    private static void byOption() {
+        SplicedLoom x = Bench.loomOf("board slack 0 joint 0;node r;option x;option y;"
+            + "plug p on r holes 9 gauge 1 to 9 with x;plug q on r holes 9 gauge 1 to 9 without x;"
+            + "net n power gauge 1 without y of p 0,p 1,q 0;net m power gauge 1 with y of q 1,p 2");
+        int[] plugs = {2, 1, 2, 1};
+        int[][] pins = {{4, 0}, {3, 0}, {0, 1}, {0, 2}};
+        for (int variant = 0; variant < 4; variant++) {
+            Bench.answers(x, "by option: plugs(" + variant + ")", x.plugs(variant), plugs[variant]);
+            for (int net = 0; net < 2; net++) {
+                Bench.answers(x, "by option: pins(" + variant + ", " + net + ")", x.pins(variant, net),
+                    pins[variant][net]);
+            }
+        }
     }
 
     private static void firstOfSeveral() {
