@@ -1349,10 +1349,10 @@ public final class SplicedLoom {
             if (!isThere(nets.whenOption[net], nets.whenWith[net], variant)) {
                 return 0;
             }
-            int plugs = plugsThere(h, variant);
             int bits = 0;
             for (int k = 0; k < nets.pins[net]; k++) {
-                if (has(plugs, nets.plug[net][k])) {
+                int plug = nets.plug[net][k];
+                if (isThere(h.plugs.whenOption[plug], h.plugs.whenWith[plug], variant)) {
                     bits |= 1 << k;
                 }
             }

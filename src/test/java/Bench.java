@@ -18,6 +18,10 @@ final class Bench {
         }
     }
 
+    static int failures() {
+        return failed;
+    }
+
     static void close(String test) {
         System.out.println(test + ": " + passed + " passed, " + failed + " failed");
         if (failed != 0) {
