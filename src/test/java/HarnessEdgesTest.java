@@ -202,6 +202,23 @@ public final class HarnessEdgesTest {
 
     // ---- promises
 
+    @Says(in = "The calls", words = "---- the harness.")
+    static void harnessBehindHarness() {
+        // faulty ones and good ones by turns: each tells of itself alone
+        SplicedLoom x = new SplicedLoom();
+        String[] texts = {Looms.OTHER, "", Looms.LOOM, "board slack 100", Looms.LOOM + ";build 1", Looms.OTHER};
+        int[] nets = {1, -1, 3, -1, -1, 1};
+        int[] faults = {0, 1, 0, 4, 7, 0};
+        int[] slacks = {9, 9, 2, 2, 2, 9};
+        for (int i = 0; i < texts.length; i++) {
+            Bench.due("harness() of \"" + texts[i] + "\"", Bench.tell(x, texts[i]), nets[i]);
+            Edges.says(x, faults[i] == 0 ? 0 : 4, "trouble");
+            Edges.says(x, faults[i], "fault");
+            Edges.says(x, 0, "size", 0);
+            Edges.is(x, slacks[i], "about", 0);
+        }
+    }
+
     @Says(in = "Promise 1", words = "No HARNESS.")
     static void newObject() {
         SplicedLoom x = new SplicedLoom();
