@@ -206,16 +206,22 @@ public final class HarnessEdgesTest {
     static void harnessBehindHarness() {
         // faulty ones and good ones by turns: each tells of itself alone
         SplicedLoom x = new SplicedLoom();
-        String[] texts = {Looms.OTHER, "", Looms.LOOM, "board slack 100", Looms.LOOM + ";build 1", Looms.OTHER};
-        int[] nets = {1, -1, 3, -1, -1, 1};
-        int[] faults = {0, 1, 0, 4, 7, 0};
-        int[] slacks = {9, 9, 2, 2, 2, 9};
+        String[] texts = {Looms.OTHER, "", Looms.LOOM, "board slack 100", Looms.LOOM + ";build 1", Looms.OTHER,
+            Looms.OTHER, Looms.LOOM};
+        int[] faults = {0, 1, 0, 4, 7, 0, 0, 0};
+        boolean[] loom = {false, false, true, true, true, false, false, true};
+        int[][] about = {{9, 8, 1, 0, 1, 1, 0}, {2, 3, 5, 2, 4, 3, 3}};
         for (int i = 0; i < texts.length; i++) {
-            Bench.due("harness() of \"" + texts[i] + "\"", Bench.tell(x, texts[i]), nets[i]);
+            int[] want = about[loom[i] ? 1 : 0];
+            Bench.due("harness() of \"" + texts[i] + "\"", Bench.tell(x, texts[i]), faults[i] == 0 ? want[5] : -1);
             Edges.says(x, faults[i] == 0 ? 0 : 4, "trouble");
             Edges.says(x, faults[i], "fault");
             Edges.says(x, 0, "size", 0);
-            Edges.is(x, slacks[i], "about", 0);
+            for (int what = 0; what < 7; what++) {
+                Edges.is(x, want[what], "about", what);
+            }
+            Bench.due("named z", x.named('z'), loom[i] ? -1 : 0);
+            Bench.due("named x", x.named('x'), loom[i] ? 100 : -1);
         }
     }
 

@@ -108,6 +108,22 @@ public final class TextEdgesTest {
         fault(1, "board slack 0^.5 joint 0");
     }
 
+    @Says(in = "I", words = "WHOLES of 1 to 3 digits that do,")
+    static void noWordIsAWhole() {
+        for (String word : new String[] {"a", "r", "x", "p", "of", "off", "net", "node", "with", "board", "without", "to"}) {
+            fault(1, "board slack ^" + word);
+            fault(1, "board slack 0 joint ^" + word);
+            fault(1, R + "node a off r up long ^" + word);
+            fault(1, R + "plug q on r holes ^" + word);
+            fault(1, R + "plug q on r holes 1 gauge ^" + word);
+            fault(1, R + "plug q on r holes 1 gauge 1 to ^" + word);
+            fault(1, O + "net n power gauge ^" + word);
+            fault(1, O + "net n power gauge 1 of p ^" + word);
+            fault(1, O + "net n power gauge 1 of p 0,p ^" + word);
+            fault(1, O + "build ^" + word);
+        }
+    }
+
     @Says(in = "I", words = "single ones of ; ,):")
     static void singleOnes() {
         fault(1, B + "^;node r");
@@ -612,6 +628,52 @@ public final class TextEdgesTest {
             fault(3, all + "net ^" + name + " power gauge 1 of p 0,p 1");
         }
         good(all + "node rr off r up long 1;option xx;plug pp on r holes 1 gauge 1 to 9;net nn power gauge 1 of p 0,p 1");
+    }
+
+    /** As many of all as there may be, but of NETS: their NAMES a .. z, and na, nb and so on of NETS. */
+    private static String everything(int nets) {
+        StringBuilder text = new StringBuilder("board slack0joint0;node a;");
+        for (char name = 'b'; name <= 'n'; name++) {
+            text.append("node ").append(name).append(" off a up long1;");
+        }
+        for (char name = 'o'; name <= 'r'; name++) {
+            text.append("option ").append(name).append(';');
+        }
+        for (char name = 's'; name <= 'z'; name++) {
+            text.append("plug ").append(name).append(" on n holes2gauge1to9;");
+        }
+        return text + times(nets, "net n@ power gauge1of s0,z1;") + "build1;build2o;build3p;build4q;build5r";
+    }
+
+    @Says(in = "I", words = "each told once (of all of them together),")
+    static void asManyOfAllAsThereMayBe() {
+        SplicedLoom x = good(everything(10));
+        int[] many = {0, 0, 14, 4, 8, 10, 5};
+        for (int what = 0; what < 7; what++) {
+            Edges.is(x, many[what], "about", what);
+        }
+        for (char name = 'a'; name <= 'z'; name++) {
+            int want = name < 'o' ? name - 'a' : name < 's' ? 100 + name - 'o' : 200 + name - 's';
+            Edges.is(x, want, "named", name);
+        }
+        for (char name = 'a'; name <= 'j'; name++) {
+            Edges.is(x, 300 + name - 'a', "named", Bench.name("n" + name));
+        }
+        for (String line : new String[] {"node a", "option a", "plug a", "net a", "build 6 o p"}) {
+            fault(5, everything(10) + ";^" + line);
+        }
+    }
+
+    @Says(in = "I", words = "each told once (of all of them together),")
+    static void eachOfAllNamesOnce() {
+        String nine = everything(9);
+        for (char name = 'a'; name <= 'z'; name++) {
+            fault(3, nine + ";net ^" + name + " power gauge 1");
+        }
+        for (char name = 'a'; name <= 'i'; name++) {
+            fault(3, nine + ";net ^n" + name + " power gauge 1");
+        }
+        good(nine + ";net nj power gauge1of s0,s1");
     }
 
     @Says(in = "I", words = "ahead of its use.")
